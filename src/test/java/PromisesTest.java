@@ -390,6 +390,10 @@ public final class PromisesTest {
             Due.is("hit full " + i, t.hit(i), 13 - i);
         }
         Due.is("hit full 14", t.hit(14), -1);
+        aim(t, -1, 0, 0, 2, 0, 0);
+        for (int i = 0; i < 14; i++) {
+            Due.is("hit full forwards " + i, t.hit(i), i);
+        }
     }
 
     private static void promise13Hits() {
